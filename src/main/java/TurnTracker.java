@@ -483,13 +483,16 @@ public final class TurnTracker {
             return condition >= 0 && condition < conditionRounds.length ? conditionRounds[condition] : 0;
         }
 
+        void setRounds(int condition, int rounds) {
+            if (condition >= 0 && condition < conditionRounds.length) {
+                conditionRounds[condition] = rounds;
+            }
+        }
+
         /** Lets a condition last for some rounds, if it does not last longer already; tells how long it lasts. */
         int lengthen(int condition, int rounds) {
-            if (condition < 0 || condition >= conditionRounds.length) {
-                return 0;
-            }
-            conditionRounds[condition] = Math.max(conditionRounds[condition], rounds);
-            return conditionRounds[condition];
+            setRounds(condition, Math.max(roundsOf(condition), rounds));
+            return roundsOf(condition);
         }
 
         void passRound() {
@@ -532,9 +535,7 @@ public final class TurnTracker {
         /** Gives life, up to the most, and ends bleeding. */
         void recover() {
             life = Math.min(life + HELPED_LIFE, mostLife);
-            if (BLEEDING < conditionRounds.length) {
-                conditionRounds[BLEEDING] = 0;
-            }
+            setRounds(BLEEDING, 0);
         }
 
         void bleed() {

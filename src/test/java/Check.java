@@ -24,6 +24,13 @@ final class Check {
         }
     }
 
+    static void dueText(String what, String got, String want) {
+        checked++;
+        if (!got.equals(want)) {
+            tell(what + " answered " + got + ", due is " + want);
+        }
+    }
+
     /** The call has to throw exactly this exception, and to change nothing. */
     static void dueThrow(TurnTracker x, String what, Class<?> want, Runnable call) {
         checked++;

@@ -2,6 +2,7 @@
 public final class ForeseeTest {
     public static void main(String[] args) {
         ifDone();
+        ifHelped();
         ifDoneWrong();
         ifEnded();
         bestStrike();
@@ -39,6 +40,21 @@ public final class ForeseeTest {
         dueIfDone(y, 1, 0, 0, -1, -1, -1);
         y.begin();
         dueIfDone(y, 1, 3, 1, 0, 1, 0);
+    }
+
+    private static void ifHelped() {
+        TurnTracker x = Check.duel(20, 9, 9, 5);
+        x.come(0, 15, 7, 1);
+        x.end();
+        x.step(3);
+        x.step(5);
+        x.end();
+        x.end();
+        x.strike(2);
+        Check.due("turn", x.count(2), 0);
+        dueIfDone(x, 2, 2, 1, 0, 1, 2);
+        x.ready(0, 1, -1, 2);
+        dueIfDone(x, 2, 0, 1, 0, 1, 1);
     }
 
     private static void ifDoneWrong() {
@@ -213,6 +229,10 @@ public final class ForeseeTest {
         TurnTracker y = Check.duel(20, 9, 9, 5);
         y.ready(0, 1, -1, 1);
         Check.due("digest in the skirmish", y.digest(), digestByLooks(y, ""));
+        y.undo();
+        y.step(1);
+        y.end();
+        Check.due("digest with the place 5 just out of reach, 4 in it", y.digest(), digestByLooks(y, ""));
         // The bits of all shares that two lives can have.
         for (int first = 1; first <= 99; first++) {
             for (int second = 1; second <= 99; second++) {

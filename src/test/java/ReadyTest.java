@@ -8,6 +8,7 @@ public final class ReadyTest {
         theGoalFallsBefore();
         severalInTheRow();
         readiersFailByStunAndFall();
+        aStunnedReadierFails();
         causesThatDoNotFit();
         lostWithTheTurn();
         helpIsReadied();
@@ -180,6 +181,21 @@ public final class ReadyTest {
         Check.due("used up", x.readied(0, 0), -1);
         Check.dueRow("stands ahead of 2", x, 0, 2, 1, 3);
         Check.due("initiative", x.fighter(0, 1), 20);
+    }
+
+    private static void aStunnedReadierFails() {
+        TurnTracker x = Check.duel(20, 5, 20, 5);
+        x.come(1, 15, 9, 1);
+        x.ready(0, 1, 1, 1);
+        x.curse(0, 0, 2);
+        Check.due("set off", x.ifDone(1, 6, 1), 1);
+        Check.due("step", x.step(6), 0);
+        Check.due("not struck, though near", x.fighter(1, 2), 20);
+        Check.due("failed", x.count(8), 1);
+        Check.due("acts of 0", x.fighter(0, 12), 2);
+        Check.due("used up", x.readied(0, 0), -1);
+        Check.due("initiative", x.fighter(0, 1), 10);
+        Check.dueRow("0 stands ahead of 1", x, 2, 0, 1);
     }
 
     private static void causesThatDoNotFit() {

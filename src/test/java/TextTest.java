@@ -48,7 +48,7 @@ public final class TextTest {
             dueError("e;" + text, 2);
             dueError(text + "e", 0);
         }
-        String[] lastWrong = {"ss", "s;", "s/", "s:", "mm", "m-", "h;", "ha", "i;", "ie", "w0", "ww", "e0", "ee", "c;", "ca",
+        String[] lastWrong = {"ss", "s;", "s/", "s:", "mm", "m-", "h;", "ha", "i;", "ie", "w0", "ww", "w,", "w:", "w<", "e0", "ee", "c;", "ca",
             "c0;", "c04", "c0/", "c00;", "c000", "c006", "c00/", "s00", "m0m", "h01", "i0e", "c0011", "c001e", "w;;"};
         for (String text : lastWrong) {
             dueError(text, text.length() - 1);

@@ -105,6 +105,12 @@ public final class UndoTest {
         Check.due("life", x.fighter(1, 2), 20);
         Check.due("turn", x.count(2), 1);
         Check.due("strike again", x.strike(0), 5);
+        TurnTracker y = Check.duel(20, 5, 5, 5);
+        y.ready(0, 1, -1, 0);
+        y.strike(0);
+        Check.due("failed", y.count(8), 1);
+        y.undo();
+        Check.due("failed no more", y.count(8), 0);
     }
 
     private static void theBufferIsNot() {
