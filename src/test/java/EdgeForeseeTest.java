@@ -10,6 +10,7 @@ public final class EdgeForeseeTest {
         ifDoneOfTheCauseThatFails();
         ifDoneTellsTheTurnBehindIt();
         ifDoneOfACurseIsAStunOfOneRound();
+        ifDoneOfACurseIsNoStunOfTwoRounds();
         ifDoneWhenAllFallByIt();
         ifEndedAtBothEnds();
         ifEndedWithoutTheTurn();
@@ -25,6 +26,7 @@ public final class EdgeForeseeTest {
         bestStrikeThatWouldNotBeDone();
         standingAtBothEnds();
         digestOfNothingAndOfAll();
+        digestAtEachPlace();
         digestOfEachLengthOfTheBuffer();
         nothingIsChanged();
         Check.finish();
@@ -172,6 +174,18 @@ public final class EdgeForeseeTest {
         dueIfDone("1 loses its turn", z, 3, 1, 1, 0, 1, 2);
         dueIfDone("2 would lose its turn", z, 3, 2, 1, 0, 1, 1);
         Check.due("nothing has happened", z.fighter(1, 8) + z.fighter(2, 8), 0);
+    }
+
+    /** 2 is stunned, and 0 falls as its next turn begins: then 1, if just one turn was lost, otherwise 2. */
+    private static void ifDoneOfACurseIsNoStunOfTwoRounds() {
+        TurnTracker x = Scene.of(new int[][] {{0, 40, 4, 5, 5}, {1, 30, 50, 5, 5}, {1, 20, 50, 5, 5}});
+        x.curse(2, 0, 2);
+        x.curse(0, 3, 5);
+        Check.due("turn", x.count(2), 0);
+        dueIfDone("a stun of one round", x, 3, 1, 1, 0, 1, 1);
+        Check.due("digest", x.digest(), ForeseeTest.digestByLooks(x, ""));
+        x.curse(1, 0, 2);
+        Check.due("a stun of two rounds", x.count(2), 2);
     }
 
     private static void ifDoneWhenAllFallByIt() {
@@ -393,6 +407,14 @@ public final class EdgeForeseeTest {
             y.come(0, 0, 9, 1);
             y.ready(2, n, -1, 3);
             Check.due("digest of more", y.digest(), ForeseeTest.digestByLooks(y, ""));
+        }
+    }
+
+    /** The step that is taken into the digest goes to 5: from 2 and 8 it is possible, from 1 and 9 it is not. */
+    private static void digestAtEachPlace() {
+        for (int place = 0; place <= 9; place++) {
+            TurnTracker x = Scene.of(new int[][] {{0, 40, 50, 5, place}, {1, 30, 50, 5, 5}});
+            Check.due("digest at " + place, x.digest(), ForeseeTest.digestByLooks(x, ""));
         }
     }
 

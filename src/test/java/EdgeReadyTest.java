@@ -17,6 +17,7 @@ public final class EdgeReadyTest {
         theCauseWithJustEnoughLife();
         theCauseIsNotPossibleAnyMore();
         aReadierFallsMeanwhile();
+        theGoalFallsMeanwhile();
         aStunOfOneRound();
         theFallenAreNotSetOff();
         theOrderOfTheRowAtTheBeginning();
@@ -301,6 +302,24 @@ public final class EdgeReadyTest {
             Check.due("failed", x.count(8), life == 5 ? 1 : 0);
             Check.due("used up", x.readied(1, 0), -1);
             Check.dueRow("both stand ahead", x, 0, 1, 2);
+            Check.due("initiative of 1", x.fighter(1, 1), 20);
+        }
+    }
+
+    /** 0 and 1 have readied a strike at 3 for the act of 2: when 0 has struck, 3 stands no more, or just so. */
+    private static void theGoalFallsMeanwhile() {
+        for (int life = 5; life <= 6; life++) {
+            TurnTracker x = Scene.of(new int[][] {{0, 40, 50, 5, 5}, {0, 30, 50, 5, 5}, {1, 20, 50, 5, 5}, {1, 10, life, 5, 5}});
+            int acts = x.count(7);
+            x.ready(0, 3, 2, 1);
+            x.ready(0, 3, 2, 1);
+            Check.due("set off", x.ifDone(1, 5, 1), 2);
+            Check.due("step", x.step(5), 0);
+            Check.due("acts", x.count(7), acts + (life == 5 ? 2 : 3));
+            Check.due("failed", x.count(8), life == 5 ? 1 : 0);
+            Check.due("acts of 1", x.fighter(1, 12), life == 5 ? 3 : 4);
+            Check.due("taken by 1", x.fighter(1, 13), life - 5);
+            Check.due("used up", x.readied(1, 0), -1);
             Check.due("initiative of 1", x.fighter(1, 1), 20);
         }
     }

@@ -3,7 +3,7 @@ import java.util.function.LongSupplier;
 
 /** All promises: seeded runs of up to 512 calls, each answer compared with that of PlainModel. */
 public final class RandomRunsTest {
-    private static final int RUNS = 500;
+    private static final int RUNS = 700;
     /** With a digest behind each call these are 512 calls in all. */
     private static final int CALLS = 256;
 
@@ -12,11 +12,14 @@ public final class RandomRunsTest {
     private final PlainModel m = new PlainModel();
     private final String name;
     private final boolean bloody;
+    /** All come near each other, and ready many acts, so that acts set off much. */
+    private final boolean crowded;
 
     private RandomRunsTest(int seed) {
         random = new Random(seed);
         name = "run " + seed;
         bloody = seed % 3 == 0;
+        crowded = seed % 2 == 0;
     }
 
     public static void main(String[] args) {
@@ -27,11 +30,20 @@ public final class RandomRunsTest {
     }
 
     private void play() {
-        int fighters = random.nextInt(11);
+        int fighters = crowded ? 4 + random.nextInt(7) : random.nextInt(11);
         for (int i = 0; i < fighters; i++) {
             come();
         }
-        for (int call = fighters; call < CALLS; call++) {
+        if (crowded) {
+            same("begin", x::begin, m::begin);
+            for (int call = 0; call < 2 * fighters; call++) {
+                int place = 4 + random.nextInt(3);
+                same("step " + place, () -> x.step(place), () -> m.step(place));
+                int near = m.turn == null ? 0 : m.turn.place + (m.turn.side == 0 ? 3 : -3);
+                same("step " + near, () -> x.step(near), () -> m.step(near));
+            }
+        }
+        for (int call = crowded ? 5 * fighters : fighters; call < CALLS; call++) {
             oneCall();
             same("digest", x::digest, m::digest);
         }
@@ -39,7 +51,9 @@ public final class RandomRunsTest {
 
     private void oneCall() {
         int dice = random.nextInt(100);
-        if (dice < 45) {
+        if (crowded && dice >= 20 && dice < 42) {
+            ready();
+        } else if (dice < 45) {
             act();
         } else if (dice < 57) {
             ready();
@@ -77,20 +91,32 @@ public final class RandomRunsTest {
         int side = within(0, 1);
         int initiative = random.nextBoolean() ? within(0, 40) : within(9, 12);
         int life = bloody ? within(1, 9) : within(1, 99);
-        int force = within(1, 20);
+        int force = crowded ? within(1, 9) : within(1, 20);
         same("come", () -> x.come(side, initiative, life, force), () -> m.come(side, initiative, life, force));
         if (m.round == 0 && m.row.size() > 2 && random.nextInt(3) == 0) {
             same("begin", x::begin, m::begin);
         }
     }
 
+    /** Mostly a goal for which an act of this kind is possible, if there is one. */
+    private int goalOf(int kind) {
+        int first = number();
+        for (int i = 0; random.nextInt(8) != 0 && i < m.row.size(); i++) {
+            int goal = Math.floorMod(first + i, m.row.size());
+            if (m.ifDone(kind, goal, 0) == 1) {
+                return goal;
+            }
+        }
+        return first;
+    }
+
     private void act() {
-        int goal = number();
         int dice = random.nextInt(10);
+        int goal = goalOf(dice < 3 ? 0 : dice < 8 ? 2 : 3);
         if (dice < 3) {
             same("strike " + goal, () -> x.strike(goal), () -> m.strike(goal));
         } else if (dice < 6) {
-            int place = within(0, 9);
+            int place = crowded ? within(4, 6) : within(0, 9);
             same("step " + place, () -> x.step(place), () -> m.step(place));
         } else if (dice < 8) {
             same("help " + goal, () -> x.help(goal), () -> m.help(goal));
@@ -102,10 +128,10 @@ public final class RandomRunsTest {
     }
 
     private void ready() {
-        int kind = random.nextInt(3) == 0 ? within(0, 3) : 2 * random.nextInt(2);
-        int goal = number();
-        int who = random.nextBoolean() ? -1 : number();
-        int cause = within(0, 3);
+        int kind = random.nextInt(crowded ? 9 : 3) == 0 ? within(0, 3) : 2 * random.nextInt(2);
+        int goal = crowded ? goalOf(kind == 0 ? 0 : 2) : number();
+        int who = random.nextInt(4) != 0 ? -1 : number();
+        int cause = crowded && random.nextBoolean() ? 0 : within(0, 3);
         same("ready " + kind + " " + goal, () -> x.ready(kind, goal, who, cause), () -> m.ready(kind, goal, who, cause));
     }
 
