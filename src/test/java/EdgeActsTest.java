@@ -209,6 +209,11 @@ public final class EdgeActsTest {
         x.end();
         Check.due("has not bled", x.fighter(2, 2), 48);
         Check.due("help of one who does not bleed", x.help(0), 50);
+        TurnTracker y = Scene.of(new int[][] {{1, 40, 50, 5, 5}, {0, 30, 50, 5, 5}, {0, 20, 50, 5, 5}});
+        y.curse(2, 0, 3);
+        y.help(2);
+        Check.due("stunned still, though helped", y.fighter(2, 8), 2);
+        Check.due("the turn of 2 ended at once", y.count(2), 0);
     }
 
     private static void helpRefused() {

@@ -22,6 +22,7 @@ public final class EdgeFightersTest {
         theFirstOneFallsAsItBegins();
         theLastOneFallsAsItBegins();
         beginLeavesLifeConditionsPlacesAndCounts();
+        beginInTheMidstOfATurn();
         beginEndsDelaysAndReadiedActs();
         Check.finish();
     }
@@ -367,6 +368,20 @@ public final class EdgeFightersTest {
         Check.due("acts", x.count(7), acts);
         Check.due("failed", x.count(8), failed);
         Check.due("turns", x.count(9), turns + 1);
+    }
+
+    /** The turn in whose midst the skirmish begins anew does not end: its fighter's conditions stay as they are. */
+    private static void beginInTheMidstOfATurn() {
+        for (int condition = 1; condition <= 3; condition++) {
+            TurnTracker x = Scene.line(2);
+            x.curse(1, condition, 4);
+            Check.due("turn", x.count(2), 1);
+            Check.due("begin", x.begin(), 0);
+            Check.due("rounds of " + condition, x.fighter(1, 8 + condition), 4);
+            x.end();
+            x.end();
+            Check.due("a turn passed", x.fighter(1, 8 + condition), 3);
+        }
     }
 
     private static void beginEndsDelaysAndReadiedActs() {
