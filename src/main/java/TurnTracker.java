@@ -322,8 +322,10 @@ public final class TurnTracker {
         if (savedNumber >= saved.length) {
             dropOldest();
         }
-        saved[savedNumber].copyFrom(now);
-        savedNumber++;
+        if (savedNumber >= 0 && savedNumber < saved.length) {
+            saved[savedNumber].copyFrom(now);
+            savedNumber++;
+        }
     }
 
     private void dropOldest() {
@@ -659,7 +661,7 @@ public final class TurnTracker {
         // ---- the row and the turns
 
         int enter(int side, int initiative, int life, int force) {
-            if (number >= fighters.length) {
+            if (number < 0 || number >= fighters.length) {
                 return NONE;
             }
             int fighter = number;
