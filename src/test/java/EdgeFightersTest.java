@@ -301,7 +301,9 @@ public final class EdgeFightersTest {
         x.end();
         int turns = x.count(9);
         int saved = x.count(12);
+        Check.due("a later round than the first", Math.min(x.count(1), 2), 2);
         Check.due("begin", x.begin(), -1);
+        Check.due("the skirmish begins with the round 1", x.count(1), 1);
         Check.due("no turn began", x.count(9), turns);
         Check.due("turn", x.count(2), -1);
         Check.due("saved", x.count(12), Math.min(saved + 1, 6));
